@@ -651,14 +651,14 @@ public final class NearNothing {
         private void draw(Plant plant, int pump) {
             int room = plant.site[pump];
             long whole = 100 * plant.divisor(room);
-            long left = plant.limit[pump] > 0 ? plant.limit[pump] - held(pump) : Long.MAX_VALUE;
             for (int gas = 0; gas < GASES; gas++) {
                 int source = room * GASES + gas;
                 long share = (long) inside[source] * plant.speed[pump * GASES + gas] / whole;
-                int n = (int) Math.min(share, left);
-                inside[source] -= n;
-                taken[pump * GASES + gas] += n;
-                left -= n;
+                if (plant.limit[pump] > 0) {
+                    share = Math.min(share, plant.limit[pump] - held(pump));
+                }
+                inside[source] -= (int) share;
+                taken[pump * GASES + gas] += (int) share;
             }
         }
 
@@ -762,6 +762,7 @@ public final class NearNothing {
         private final int[] text = new int[TEXT];
         int length;
         int place;
+        private int sign;
         boolean forPump;
         int target;
         final int[] steps = new int[TEXT];
@@ -777,9 +778,10 @@ public final class NearNothing {
 
         /** If not, place is where the first byte stands that can not stand. */
         boolean parses() {
-            place = 0;
             used = 0;
-            forPump = sign() == 'P';
+            place = -1;
+            go();
+            forPump = sign == 'P';
             if (!skip('P') && !skip('V')) {
                 return false;
             }
@@ -787,7 +789,7 @@ public final class NearNothing {
             if (target < 0) {
                 return false;
             }
-            place++;
+            go();
             return skip(':') && test(0) && place == length;
         }
 
@@ -818,15 +820,15 @@ public final class NearNothing {
         }
 
         private boolean part(int deep) {
-            int sign = sign();
-            if (sign != '!' && sign != '(') {
+            boolean not = sign == '!';
+            if (!not && sign != '(') {
                 return comparison();
             }
             if (deep >= DEEPEST) {
                 return false;
             }
-            place++;
-            if (sign == '(') {
+            go();
+            if (!not) {
                 return test(deep + 1) && skip(')');
             }
             if (!part(deep + 1)) {
@@ -837,24 +839,24 @@ public final class NearNothing {
         }
 
         private boolean comparison() {
-            int fact = among(sign(), 'r', 'w', 'v', 'p', 't');
+            int fact = among('r', 'w', 'v', 'p', 't');
             if (fact < 0) {
                 return false;
             }
-            place++;
+            go();
             int which = 0;
             if (fact != Rules.TICK) {
                 which = digit();
                 if (which < 0) {
                     return false;
                 }
-                place++;
+                go();
             }
-            int relation = among(sign(), '<', '=', '>', -2, -2);
+            int relation = among('<', '=', '>', '>', '>');
             if (relation < 0) {
                 return false;
             }
-            place++;
+            go();
             int number = number();
             if (number < 0) {
                 return false;
@@ -868,15 +870,16 @@ public final class NearNothing {
             if (value < 0) {
                 return -1;
             }
-            place++;
+            go();
             for (int k = 1; k < DIGITS && digit() >= 0; k++) {
                 value = value * 10 + digit();
-                place++;
+                go();
             }
             return value;
         }
 
-        private static int among(int sign, int s0, int s1, int s2, int s3, int s4) {
+        /** Which of these the sign is; -1 none. */
+        private int among(int s0, int s1, int s2, int s3, int s4) {
             if (sign == s0) {
                 return 0;
             }
@@ -892,21 +895,22 @@ public final class NearNothing {
             return sign == s4 ? 4 : -1;
         }
 
-        private int sign() {
-            return place >= 0 && place < length && place < TEXT ? text[place] : -1;
-        }
-
         private int digit() {
-            int sign = sign();
             return sign >= '0' && sign <= '9' ? sign - '0' : -1;
         }
 
-        private boolean skip(int sign) {
-            if (sign() != sign) {
+        private boolean skip(int wanted) {
+            if (sign != wanted) {
                 return false;
             }
-            place++;
+            go();
             return true;
+        }
+
+        /** To the next byte; behind the end stands the sign -1. */
+        private void go() {
+            place++;
+            sign = place >= 0 && place < length && place < TEXT ? text[place] : -1;
         }
 
         private void add(int step) {
@@ -1115,10 +1119,10 @@ public final class NearNothing {
             findReached();
             int leaky = leakyRooms();
             int best = NONE;
-            int bestPrice = Integer.MAX_VALUE;
+            int bestPrice = 0;
             for (int set = 0; set < 1 << offers; set++) {
                 int cost = priceOf(set);
-                if (cost < bestPrice && serves(set, leaky, m)) {
+                if ((best == NONE || cost < bestPrice) && serves(set, leaky, m)) {
                     best = set;
                     bestPrice = cost;
                 }
@@ -1182,7 +1186,8 @@ public final class NearNothing {
         private void findSpeeds(int gas, int set) {
             Arrays.fill(speeds, 0);
             for (int pump = 0; pump < plant.pumps; pump++) {
-                speeds[plant.site[pump]] += (plant.on >> pump & 1) * plant.speed[pump * GASES + gas];
+                int speed = plant.speed[pump * GASES + gas];
+                speeds[plant.site[pump]] += (plant.on >> pump & 1) * speed;
             }
             for (int k = 0; k < offers; k++) {
                 speeds[site[k]] += (set >> k & 1) * offeredSpeed[k];
@@ -1352,7 +1357,7 @@ public final class NearNothing {
             return bits;
         }
 
-        /** How many true gases there may be (what 0), or the least (1 ..) or greatest (4 ..) of one. */
+        /** How many true gases there may be (what 0), or the least (1 ..), greatest (4 ..) of one. */
         int possible(int doubt, int what) {
             Arrays.fill(least, MOST + 1);
             Arrays.fill(greatest, NONE);
@@ -1551,10 +1556,10 @@ public final class NearNothing {
 
         private int nextPlace(int fitting) {
             int best = NONE;
-            int bestGreater = Integer.MAX_VALUE;
+            int bestGreater = fitting;
             for (int place = 0; place < PLACES; place++) {
                 int greater = Math.max(having[place], fitting - having[place]);
-                if (greater < fitting && greater < bestGreater) {
+                if (greater < bestGreater) {
                     best = place;
                     bestGreater = greater;
                 }

@@ -15,6 +15,7 @@ public final class RoomsTest {
         pumping();
         traps();
         where();
+        greatPush();
         when();
         Check.end();
     }
@@ -321,6 +322,30 @@ public final class RoomsTest {
         Check.due("12: in rooms", x.all(0, 2), 1);
         Check.due("42: nobody was refused", x.count(11), 5);
         Check.due("42: other whats were refused", x.count(12), 6);
+    }
+
+    /** Nearly 6 million grains told and 15 million leaked into a room of size 1. */
+    private static void greatPush() {
+        NearNothing x = new NearNothing();
+        x.room(1, 0);
+        x.gives(0, 5, 500);
+        for (int gas = 0; gas < 3; gas++) {
+            for (int k = 0; k < 20; k++) {
+                x.gas(0, gas, 99999, k % 2 == 0);
+            }
+            x.leak(0, gas, 999);
+        }
+        for (int k = 0; k < 22; k++) {
+            x.ticks(200);
+        }
+        int less = x.in(0, 0, 2);
+        Check.due("10: not yet the greatest", less, 100 * (2 * 3 * 999990 - 3 + 3 * 999 * 4400));
+        for (int k = 0; k < 3; k++) {
+            x.ticks(200);
+        }
+        Check.due("10: the greatest push", x.in(0, 0, 2), 2000000000);
+        Check.due("10: more grains than that", x.in(0, 1, 0), 999990 + 999989 + 999 * 5000);
+        Check.due("28: a great reading", x.reads(0, 0), 3 * (2 * 999990 - 1 + 4995000) / 10);
     }
 
     private static void when() {
