@@ -218,6 +218,9 @@ public final class AtRestTest {
         x.leak(2, 0, 9);
         plan(x, 9999, 8, 5);
         x.leak(2, 0, 0);
+        x.leak(0, 0, 1);
+        plan(x, 9999, 7, 1);
+        plan(x, 0, -9, -9);
         x.leak(0, 0, 0);
         plan(x, 0, 0, 0);
     }

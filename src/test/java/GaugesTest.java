@@ -101,6 +101,28 @@ public final class GaugesTest {
         Check.due("30: gas 1 is hidden", x.trueGas(0, 7), 2);
         x.reading(2, 0);
         Check.due("30: none is hidden", x.trueGas(0, 7), 0);
+        seesOne();
+    }
+
+    /** Gauge 2 sees gas 0 or 1 alone, grain for grain: a reading is ten grains wide. */
+    private static void seesOne() {
+        for (int gas = 0; gas < 3; gas++) {
+            NearNothing x = new NearNothing();
+            for (int other = 0; other < 3; other++) {
+                x.sees(2, other, other == gas ? 1 : 0);
+            }
+            x.reading(2, 0);
+            Check.due("30: reads 0", x.trueGas(0, 0), 10 * 41 * 41);
+            Check.due("30: reads 0, greatest", x.trueGas(0, 4 + gas), 9);
+            x.reading(2, 1);
+            Check.due("30: reads 1", x.trueGas(0, 0), 10 * 41 * 41);
+            Check.due("30: reads 1, least", x.trueGas(0, 1 + gas), 10);
+            Check.due("30: reads 1, greatest", x.trueGas(0, 4 + gas), 19);
+            x.reading(2, 5);
+            Check.due("30: reads 5, least", x.trueGas(1, 1 + gas), 40);
+            Check.due("30: reads 5, how many", x.trueGas(1, 0), 41 * 41);
+            Check.due("30: reads 5 just", x.trueGas(0, 0), 0);
+        }
     }
 
     private static void stages() {

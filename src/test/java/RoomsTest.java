@@ -17,6 +17,7 @@ public final class RoomsTest {
         where();
         greatPush();
         when();
+        whenOfTheLast();
         Check.end();
     }
 
@@ -322,6 +323,33 @@ public final class RoomsTest {
         Check.due("12: in rooms", x.all(0, 2), 1);
         Check.due("42: nobody was refused", x.count(11), 5);
         Check.due("42: other whats were refused", x.count(12), 6);
+    }
+
+    /** What is told of the last room, its wall and its trap, counts for when, too. */
+    private static void whenOfTheLast() {
+        NearNothing x = new NearNothing();
+        for (int k = 0; k < 5; k++) {
+            x.room(1, 3);
+        }
+        x.gives(3, 5, 500);
+        x.gas(4, 2, 1000, true);
+        x.gas(4, 2, 100, false);
+        for (int k = 0; k < 8; k++) {
+            x.pump(k == 7 ? 4 : 0, 0, 0, 9, 40);
+        }
+        x.start(7, true);
+        // 100 and 500 of the wall less 40 that the trap has room for.
+        Check.due("13: not below 56000", x.when(4, 56000, 1), -9);
+        Check.due("13: below 56001", x.when(4, 56001, 1), 1);
+        x.ticks(1);
+        Check.due("13: so it is", x.in(4, 0, 2), 56000);
+        x.ticks(20);
+        x.warmUp(7);
+        int before = x.in(4, 0, 2);
+        Check.due("13: the trap gives back", x.when(4, before + 1, 1), -9);
+        Check.due("13: four grains", x.when(4, before + 401, 1), 22);
+        Check.due("13: not more", x.when(4, before + 400, 1), -9);
+        Check.due("13: nothing changed", x.pumpOf(7, 3), 40);
     }
 
     /** Nearly 6 million grains told and 15 million leaked into a room of size 1. */

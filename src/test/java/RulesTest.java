@@ -12,6 +12,8 @@ public final class RulesTest {
         warming();
         acts();
         thirtyActs();
+        thirtyUnlike(false);
+        thirtyUnlike(true);
         forgetting();
         orders();
         orderRefusals();
@@ -316,6 +318,58 @@ public final class RulesTest {
         }
         Check.due("22: no more", x.redo(), -3);
         Check.due("22: on", x.count(5), 1);
+    }
+
+    /** 35 acts of all kinds; the first five are dropped, the others go back and forth in order. */
+    private static void thirtyUnlike(boolean byTurns) {
+        NearNothing x = new NearNothing();
+        x.room(1, 0);
+        x.room(1, 0);
+        for (int k = 0; k < 7; k++) {
+            x.pipe(0, 1, 1);
+            x.pump(0, 1, 1, 1, 1);
+            Check.rule(x, "V" + k + ":v" + k + "=1");
+        }
+        long[] states = new long[36];
+        for (int k = 0; k < 35; k++) {
+            states[k] = state(x);
+            Check.due("18 to 20: an act", byTurns ? actByTurns(x, k) : actInRows(x, k), 1);
+        }
+        states[35] = state(x);
+        for (int k = 34; k >= 5; k--) {
+            Check.due("21: undone", x.undo(), 1);
+            Check.due("21: the state before act " + k, state(x), states[k]);
+        }
+        Check.due("21: the first ones are dropped", x.undo(), -3);
+        for (int k = 5; k < 35; k++) {
+            Check.due("22: done again", x.redo(), 1);
+            Check.due("22: the state behind act " + k, state(x), states[k + 1]);
+        }
+    }
+
+    private static int actInRows(NearNothing x, int k) {
+        int number = k % 7;
+        int kind = k / 7;
+        if (kind == 4) {
+            return x.warmUp(number);
+        }
+        return kind == 0 || kind == 3 ? x.valve(number, kind == 0) : x.start(number, kind == 1);
+    }
+
+    private static int actByTurns(NearNothing x, int k) {
+        int number = k / 2 % 7;
+        boolean on = k / 14 % 2 == 0;
+        return k % 2 == 0 ? x.valve(number, on) : x.start(number, on);
+    }
+
+    /** Which valves are open (a rule for each tells it), which pumps are on, which are warmed. */
+    private static long state(NearNothing x) {
+        long state = x.count(3);
+        for (int k = 0; k < 7; k++) {
+            long open = x.forbids(k, false) >= 0 ? 1 : 0;
+            state = state << 3 | open << 2 | (long) x.pumpOf(k, 0) << 1 | x.pumpOf(k, 4);
+        }
+        return state;
     }
 
     private static void forgetting() {
