@@ -1,5 +1,15 @@
 /** What the tests share: a call's answer beside the one that is due, and texts fed as bytes. */
 final class Check {
+    /** A call that is asked. */
+    interface Call {
+        long on(NearNothing x);
+    }
+
+    /** What is done ahead of it. */
+    interface Step {
+        void of(NearNothing x);
+    }
+
     private static int wrong = 0;
     private static int asked = 0;
 

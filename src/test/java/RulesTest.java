@@ -322,6 +322,24 @@ public final class RulesTest {
 
     /** 35 acts of all kinds; the first five are dropped, the others go back and forth in order. */
     private static void thirtyUnlike(boolean byTurns) {
+        for (int gone = 0; gone <= 30; gone++) {
+            NearNothing x = acted(byTurns, 35);
+            for (int k = 0; k < gone; k++) {
+                Check.due("21: undone", x.undo(), 1);
+            }
+            long due = state(acted(byTurns, 35 - gone));
+            Check.due("21: the state before the last " + gone + " acts", state(x), due);
+            if (gone == 30) {
+                Check.due("21: the first ones are dropped", x.undo(), -3);
+            }
+            for (int k = 0; k < gone; k++) {
+                Check.due("22: done again", x.redo(), 1);
+            }
+            Check.due("22: the state behind all acts", state(x), state(acted(byTurns, 35)));
+        }
+    }
+
+    private static NearNothing acted(boolean byTurns, int acts) {
         NearNothing x = new NearNothing();
         x.room(1, 0);
         x.room(1, 0);
@@ -330,21 +348,10 @@ public final class RulesTest {
             x.pump(0, 1, 1, 1, 1);
             Check.rule(x, "V" + k + ":v" + k + "=1");
         }
-        long[] states = new long[36];
-        for (int k = 0; k < 35; k++) {
-            states[k] = state(x);
+        for (int k = 0; k < acts; k++) {
             Check.due("18 to 20: an act", byTurns ? actByTurns(x, k) : actInRows(x, k), 1);
         }
-        states[35] = state(x);
-        for (int k = 34; k >= 5; k--) {
-            Check.due("21: undone", x.undo(), 1);
-            Check.due("21: the state before act " + k, state(x), states[k]);
-        }
-        Check.due("21: the first ones are dropped", x.undo(), -3);
-        for (int k = 5; k < 35; k++) {
-            Check.due("22: done again", x.redo(), 1);
-            Check.due("22: the state behind act " + k, state(x), states[k + 1]);
-        }
+        return x;
     }
 
     private static int actInRows(NearNothing x, int k) {

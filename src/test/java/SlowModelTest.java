@@ -1,7 +1,10 @@
 /** Long runs of calls, drawn by a fixed sequence of numbers, beside the slow model's answers. */
 public final class SlowModelTest {
     private static final String SIGNS = "PV0123456789:rwvpt!()&|<=>";
+    /** A text is fed by five calls at most and read by a sixth. */
+    private static final int MOST_AT_ONCE = 6;
     private long seed;
+    private int calls;
     private NearNothing x;
     private SlowModel slow;
     private String last;
@@ -16,7 +19,7 @@ public final class SlowModelTest {
         int runs = args.length > 0 ? Integer.parseInt(args[0]) : 400;
         for (int run = 0; run < runs; run++) {
             SlowModelTest test = new SlowModelTest(run);
-            for (int k = 0; k < 512; k++) {
+            for (int k = 0; test.calls + MOST_AT_ONCE <= 512; k++) {
                 test.call(run, k);
             }
         }
@@ -51,6 +54,7 @@ public final class SlowModelTest {
     }
 
     private void due(int run, int k, long got, long want) {
+        calls++;
         Check.due("run " + run + " call " + k + " " + last, got, want);
     }
 
@@ -347,6 +351,9 @@ public final class SlowModelTest {
         } else if (draw(4) == 0) {
             last = "anew";
             due(run, k, x.anew(), slow.anew());
+        } else {
+            last = "count 8";
+            due(run, k, x.count(8), slow.count(8));
         }
     }
 }

@@ -1,32 +1,51 @@
-/** Calls with wild numbers in every state: none throws, and a refused one changes nothing. */
+/**
+ * Calls with wild numbers in every state: none throws, and what was refused changed nothing: a twin
+ * that is not asked what was refused answers the same.
+ */
 public final class WildCallsTest {
     private static final int[] WILD = {Integer.MIN_VALUE, Integer.MIN_VALUE + 1, -2000000000, -100000,
         -256, -10, -9, -2, -1, 0, 1, 2, 3, 4, 5, 6, 7, 8, 9, 10, 12, 20, 21, 25, 30, 31, 32, 33, 40, 63, 64,
         99, 100, 255, 256, 300, 999, 5000, 9999, 10000, 99999, 999999, 2000000000,
         Integer.MAX_VALUE - 1, Integer.MAX_VALUE};
     private static final int CALLS = 42;
+    /** With what fills an object and what asks for all of it, less than 512. */
+    private static final int WILD_CALLS = 100;
     private static long seed = 5;
 
     public static void main(String[] args) {
-        for (int run = 0; run < 40; run++) {
+        for (int run = 0; run < 1500; run++) {
             NearNothing x = new NearNothing();
+            NearNothing twin = new NearNothing();
             if (run % 2 == 1) {
                 fill(x);
+                fill(twin);
             }
-            for (int k = 0; k < 1500; k++) {
-                int which = draw(CALLS);
-                long before = whole(x);
-                int refused = refused(x);
-                long answer = call(x, which);
-                if (refused(x) != refused) {
-                    Check.due("a refused call " + which + " answers its number",
-                            answer >= -7 && answer <= -1 ? 1 : 0, 1);
-                    Check.due("a refused call " + which + " counts once", refused(x), refused + 1);
-                    Check.due("a refused call " + which + " changes nothing", whole(x), before);
-                }
+            int[] refusals = new int[8];
+            for (int k = 0; k < WILD_CALLS; k++) {
+                both(x, twin, refusals);
             }
+            for (int number = 1; number <= 7; number++) {
+                Check.due("refusals -" + number + " of run " + run, x.count(10 + number), refusals[number]);
+                Check.due("refusals -" + number + " of the twin", twin.count(10 + number), 0);
+            }
+            boolean same = Furnished.whole(x).equals(Furnished.whole(twin));
+            Check.due("what was refused changes nothing in run " + run, same ? 1 : 0, 1);
         }
         Check.end();
+    }
+
+    private static void both(NearNothing x, NearNothing twin, int[] refusals) {
+        int which = draw(CALLS);
+        long before = seed;
+        long answer = call(x, which);
+        if (answer < 0 && answer >= -7) {
+            refusals[(int) -answer]++;
+            return;
+        }
+        long after = seed;
+        seed = before;
+        Check.due("call " + which + " of the twin", call(twin, which), answer);
+        seed = after;
     }
 
     private static int draw(int count) {
@@ -56,41 +75,6 @@ public final class WildCallsTest {
             x.pump(k % 5, 9, k, 1, k % 2 * 500);
             x.start(k, k % 3 == 0);
         }
-    }
-
-    private static int refused(NearNothing x) {
-        int sum = 0;
-        for (int what = 11; what <= 17; what++) {
-            sum += x.count(what);
-        }
-        return sum;
-    }
-
-    /** A number of all that can be asked without counting a refusal. */
-    private static long whole(NearNothing x) {
-        long sum = 0;
-        for (int what = 0; what <= 8; what++) {
-            sum = sum * 31 + x.count(what);
-        }
-        for (int gas = 0; gas < 3; gas++) {
-            for (int room = 0; room < x.count(1); room++) {
-                sum = ((sum * 31 + x.in(room, gas, 0)) * 31 + x.in(room, gas, 1)) * 31 + x.rest(room, gas, 0);
-                sum = sum * 31 + x.reads(gas, room);
-            }
-            for (int what = 0; what < 5; what++) {
-                sum = sum * 31 + x.all(gas, what);
-            }
-        }
-        for (int pump = 0; pump < x.count(4); pump++) {
-            for (int what = 0; what < 6; what++) {
-                sum = sum * 31 + x.pumpOf(pump, what);
-            }
-            sum = sum * 31 + x.forbids(pump, true);
-        }
-        for (int k = 0; k < 4; k++) {
-            sum = ((sum * 31 + x.restCold(k)) * 31 + x.hunt(k)) * 31 + x.walks(k, 4, k % 3);
-        }
-        return (sum * 31 + x.trueGas(3, 0)) * 31 + x.plan(50, 1);
     }
 
     private static long call(NearNothing x, int which) {
@@ -141,8 +125,13 @@ public final class WildCallsTest {
             case 37: return x.odds(wild(), wild(), wild(), wild(), wild());
             case 38: return x.offer(wild(), wild(), wild());
             case 39: return x.plan(wild(), wild());
-            case 40: return x.count(wild());
+            case 40: return counted(x, wild());
             default: return x.odds(30, wild(), wild(), wild(), 0);
         }
+    }
+
+    /** Of the twin other refusals are counted. */
+    private static long counted(NearNothing x, int what) {
+        return what >= 11 && what <= 17 ? 0 : x.count(what);
     }
 }
