@@ -17,6 +17,7 @@ public final class EdgesAtRestTest {
         staysAtTheEdges();
         throughAndBack();
         endedOnes();
+        fourSquaresBeside();
         intoWalls();
         fromAWall();
         sixOffers();
@@ -302,6 +303,23 @@ public final class EdgesAtRestTest {
         Check.due("26: through in 6", x.walks(2, 6, 0), 4 + 5 * 2);
     }
 
+    /** "one of the four squares beside": up alone, down alone, and once to the left on the way. */
+    private static void fourSquaresBeside() {
+        String[][] drawings = {
+            {"....#", "###.#", "##..#", "##.##", "##..."},
+            {"##...", "##.##", "##..#", "###.#", "....#"},
+        };
+        for (int k = 0; k < 2; k++) {
+            NearNothing x = new NearNothing();
+            for (int at = 0; at < 25; at++) {
+                x.square(at % 5, at / 5, drawings[k][at / 5].charAt(at % 5) == '#');
+            }
+            Check.due("26: not in ten", x.walks(4 * k, 10, 0), 0);
+            Check.due("26: in eleven one way", x.walks(4 * k, 11, 0), 1);
+            Check.due("26: not from the other end", x.walks(4 - 4 * k, 12, 0), 0);
+        }
+    }
+
     /** "into a wall .. : it stays". */
     private static void intoWalls() {
         NearNothing x = new NearNothing();
@@ -452,6 +470,14 @@ public final class EdgesAtRestTest {
         x.leak(0, 0, 0);
         x.valve(0, false);
         Check.due("41: CLOSED without LEAKS", x.plan(0, 0), 0);
+        for (int room = 0; room < 5; room++) {
+            NearNothing y = rooms(5);
+            y.leak(room, 0, 1);
+            y.offer((room + 1) % 5, 9, 1);
+            Check.due("41: CLOSED is ROOM " + room, y.plan(9999, 0), -9);
+            y.offer(room, 9, 7);
+            Check.due("41: an OFFER for ROOM " + room, y.plan(9999, 1), 2);
+        }
     }
 
     /** "of several sets the least as bits". */

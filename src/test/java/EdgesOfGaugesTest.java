@@ -184,10 +184,35 @@ public final class EdgesOfGaugesTest {
             Check.due("30: greatest within " + doubt, x.trueGas(doubt, 4), greatest);
             Check.due("30: so many within " + doubt, x.trueGas(doubt, 0), (greatest - least + 1) * 1681L);
         }
+        for (int gauge = 0; gauge < 3; gauge++) {
+            for (int gas = 0; gas < 3; gas++) {
+                oneOfNine(gauge, gas);
+            }
+        }
         x.reading(0, 3);
         Check.due("30: within 3 of 3 is 0, too", x.trueGas(3, 1), 0);
         Check.due("30: within 2 of 3 is 1", x.trueGas(2, 1), 2);
         Check.due("30: within 9 of 3", x.trueGas(9, 1), 0);
+    }
+
+    /** By each GAUGE of each GAS: 0 just below and just at 10 of the sum, SEEN once and nine times. */
+    private static void oneOfNine(int gauge, int gas) {
+        NearNothing x = new NearNothing();
+        for (int other = 0; other < 3; other++) {
+            x.sees(gauge, other, other == gas ? 9 : 0);
+        }
+        x.reading(gauge, 1);
+        Check.due("30: 18 by 10 is the least for 1", x.trueGas(0, 1 + gas), 2);
+        Check.due("30: and the greatest", x.trueGas(0, 4 + gas), 2);
+        x.reading(gauge, 0);
+        Check.due("30: 9 by 10 is the greatest for 0", x.trueGas(0, 4 + gas), 1);
+        x.sees(gauge, gas, 1);
+        Check.due("30: SEEN once, 9 by 10", x.trueGas(0, 4 + gas), 9);
+        Check.due("30: so many", x.trueGas(0, 0), 10 * 1681);
+        x.reading(gauge, 4);
+        Check.due("30: SEEN once, 40 by 10", x.trueGas(0, 1 + gas), 40);
+        Check.due("30: within 1, from 30 on", x.trueGas(1, 1 + gas), 30);
+        Check.due("30: the others are free", x.trueGas(0, 4 + (gas + 1) % 3), 40);
     }
 
     /** "all grains of the three GASES 0 .. 40". */
@@ -390,6 +415,9 @@ public final class EdgesOfGaugesTest {
         Check.due("33: 124 of 176", x.load(0, 174), -9);
         Check.due("33: 125 of 125", x.load(0, 175), 0);
         Check.due("33: 126 of 124", x.load(0, 176), 2);
+        x.stage(0, 50, 2, 1, 0);
+        Check.due("33: 166 of 167", x.load(0, 133), -9);
+        Check.due("33: 168 of 166", x.load(0, 134), 2);
         x.stage(0, 299, 1, 0, 0);
         Check.due("33: mark 0", x.load(0, 0), -9);
     }

@@ -16,6 +16,7 @@ public final class EdgesOfRoomsTest {
         twelvePipes();
         widths();
         shutAtFirst();
+        eachValveForItself();
         flowIsCut();
         noMoreThanIsThere();
         whatCameInToo();
@@ -23,6 +24,7 @@ public final class EdgesOfRoomsTest {
         firstRoomAhead();
         eightPumps();
         speeds();
+        eachPumpForItself();
         offAtFirst();
         pumpingIsCut();
         pumpsByNumbers();
@@ -47,6 +49,7 @@ public final class EdgesOfRoomsTest {
         whenFirst();
         whenAboveTheTicks();
         whenNothingChanges();
+        whenAsTicksWould();
         Check.end();
     }
 
@@ -319,6 +322,23 @@ public final class EdgesOfRoomsTest {
         Check.due("18: it was not open", x.valve(0, true), 1);
     }
 
+    private static void eachValveForItself() {
+        for (int k = 0; k < 12; k++) {
+            NearNothing x = rooms(1, 1);
+            for (int pipe = 0; pipe < 12; pipe++) {
+                x.pipe(0, 1, pipe == k ? 9 : 1);
+            }
+            Check.due("18: shut", x.valve(k, false), 0);
+            Check.due("18: opened", x.valve(k, true), 1);
+            Check.due("18: open", x.valve(k, true), 0);
+            x.gas(0, 0, 100, false);
+            x.ticks(1);
+            Check.due("I: through PIPE " + k, x.in(1, 0, 0), 9);
+            Check.due("18: shut again", x.valve(k, false), 1);
+            Check.due("42: none is open", x.count(3), 0);
+        }
+    }
+
     /** "grains times WIDTH by (100 times SIZE), cut". */
     private static void flowIsCut() {
         NearNothing x = rooms(1, 2, 99);
@@ -442,6 +462,37 @@ public final class EdgesOfRoomsTest {
         Check.due("I: SPEED 1 takes a hundredth", x.pumpOf(0, 3), 10);
     }
 
+    /** All eight PUMPS, each with SPEEDS, a LIMIT and a ROOM of its own. */
+    private static void eachPumpForItself() {
+        NearNothing x = rooms(1, 1, 1, 1, 1);
+        for (int k = 0; k < 8; k++) {
+            x.pump(k % 5, k % 4, k + 1, 9 - k, k % 2 == 0 ? 0 : 6 * k);
+            Check.due("19: it was not on", x.start(k, true), 1);
+        }
+        for (int at = 0; at < 15; at++) {
+            x.gas(at / 3, at % 3, 10000, false);
+        }
+        x.ticks(1);
+        int[][] due = {{0, 100, 900}, {6, 0, 0}, {200, 300, 700}, {18, 0, 0}, {0, 500, 500}, {30, 0, 0},
+            {199, 700, 300}, {42, 0, 0}};
+        for (int at = 0; at < 24; at++) {
+            Check.due("I: PUMP " + at / 3 + " of GAS " + at % 3, x.pumpOf(at / 3, 1 + at % 3), due[at / 3][at % 3]);
+        }
+        Check.due("20: PUMP 7 is WARMED", x.warmUp(7), 1);
+        Check.due("20: it was so", x.warmUp(7), 0);
+        Check.due("11: PUMP 7 is WARMED", x.pumpOf(7, 4), 1);
+        Check.due("11: PUMP 5 is not", x.pumpOf(5, 4), 0);
+        int there = x.in(2, 0, 0);
+        int held = x.pumpOf(7, 1);
+        x.start(2, false);
+        x.ticks(1);
+        Check.due("I: into the ROOM of PUMP 7", x.in(2, 0, 0), there + (held + 9) / 10);
+        x.ticks(60);
+        Check.due("I: PUMP 7 is empty", x.pumpOf(7, 1) + x.pumpOf(7, 2) + x.pumpOf(7, 3), 0);
+        Check.due("I: so it is WARMED no more", x.pumpOf(7, 4), 0);
+        Check.due("19: and starts", x.start(7, true), 1);
+    }
+
     /** "off at first". */
     private static void offAtFirst() {
         NearNothing x = rooms(1);
@@ -513,6 +564,8 @@ public final class EdgesOfRoomsTest {
         Check.due("I: takes nothing", x.in(0, 2, 0), 99);
         Check.due("I: of no GAS", x.in(0, 0, 0), 100);
         Check.due("I: it is on still", x.pumpOf(0, 0), 1);
+        Check.due("12: in TRAPS, though the LIMIT is 1", x.all(2, 4), 1);
+        Check.due("12: not OUT", x.all(2, 1), 0);
         NearNothing y = rooms(1);
         y.pump(0, 9, 9, 9, 99999);
         y.start(0, true);
@@ -865,5 +918,40 @@ public final class EdgesOfRoomsTest {
         x.when(0, 0, 300);
         x.when(1, 7, 300);
         Check.due("13: nothing changes", Furnished.whole(x).equals(Furnished.whole(y)) ? 1 : 0, 1);
+    }
+
+    /** "would be .. if nothing is done": by all that passes in TICKS, of each ROOM. */
+    private static void whenAsTicksWould() {
+        for (int mark = 1000; mark <= 40000; mark += 3000) {
+            for (int room = 0; room < 5; room++) {
+                NearNothing x = busy();
+                int due = -9;
+                int when = x.when(room, mark, 40);
+                for (int k = 1; k <= 40 && due == -9; k++) {
+                    x.ticks(1);
+                    due = x.in(room, 0, 2) < mark ? 25 + k : -9;
+                }
+                Check.due("13: ROOM " + room + " below " + mark, when, due);
+            }
+        }
+    }
+
+    /** Walls that give off, leaks, pumps that take, a trap that is full soon, one that gives back. */
+    private static NearNothing busy() {
+        NearNothing x = rooms(1, 2, 3, 4, 5);
+        x.gives(0, 5, 30);
+        for (int k = 0; k < 5; k++) {
+            x.gas(k, k % 3, 600, true);
+            x.gas(k, (k + 1) % 3, 900, false);
+            x.leak(k, (k + 2) % 3, k);
+            x.pipe(k, (k + 1) % 5, 2);
+            x.valve(k, k != 2);
+            x.pump(k, 9, 8, 7, k < 3 ? 0 : 300 + k);
+            x.start(k, true);
+        }
+        x.ticks(25);
+        x.warmUp(4);
+        x.warm(1, 6);
+        return x;
     }
 }

@@ -8,6 +8,7 @@ public final class EdgesOfRulesTest {
         textHasNoneThen();
         emptyText();
         sixteenRules();
+        sixteenLongOnes();
         goneRules();
         targets();
         targetFaults();
@@ -33,6 +34,7 @@ public final class EdgesOfRulesTest {
         noActs();
         noneUndone();
         thirtyActs();
+        thirtyOfAllKinds();
         forgetting();
         refusedTellings();
         doneAgain();
@@ -151,6 +153,25 @@ public final class EdgesOfRulesTest {
         Check.due("15: it stays", x.count(8), 7);
         Check.due("42: 16", x.count(6), 16);
         Check.due("42: REFUSALS -6", x.count(16), 3);
+    }
+
+    /** 16 TEXTS of 40 bytes: each is read for itself. */
+    private static void sixteenLongOnes() {
+        NearNothing x = plant(8);
+        for (int k = 0; k < 16; k++) {
+            String last = k % 2 == 0 ? "0" : "1";
+            Check.due("14: 40 bytes", Check.feed(x, "P" + k / 2 + ":t=1|t=1|t=1|t=1|t=1|t=1|t=1|t=1|t=00" + last), 40);
+            Check.due("15: a RULE", x.rule(), k);
+        }
+        for (int pump = 0; pump < 8; pump++) {
+            Check.due("17: t=000", x.forbids(pump, true), 2 * pump);
+        }
+        x.ticks(1);
+        for (int pump = 0; pump < 8; pump++) {
+            Check.due("17: t=1", x.forbids(pump, true), 2 * pump);
+            x.unrule(2 * pump);
+            Check.due("17: t=1, the other one", x.forbids(pump, true), 2 * pump + 1);
+        }
     }
 
     /** Promise 16: "-1 (also one that is gone)". */
@@ -572,6 +593,55 @@ public final class EdgesOfRulesTest {
             Check.due("22: no more of " + acts, x.redo(), -3);
             Check.due("22: all of " + acts, x.pumpOf(1, 0), 1);
             Check.due("22: the latest of " + acts, x.pumpOf(0, 0), acts % 2 == 0 ? 1 : 0);
+        }
+    }
+
+    /** 31 ACTS of all kinds at twelve PIPES and eight TRAPS, UNDONE one by one but for the first. */
+    private static void thirtyOfAllKinds() {
+        NearNothing x = new NearNothing();
+        x.room(1, 0);
+        x.room(1, 0);
+        for (int k = 0; k < 12; k++) {
+            x.pipe(0, 1, 1);
+            x.pump(0, 1, 1, 1, 1);
+        }
+        for (int k = 0; k < 12; k++) {
+            Check.due("18: opened", x.valve(k, true), 1);
+            if (k < 8) {
+                Check.due("19: started", x.start(k, true), 1);
+            }
+        }
+        for (int k = 0; k < 6; k++) {
+            Check.due("20: WARMED", x.warmUp(k), 1);
+        }
+        x.valve(11, false);
+        x.valve(10, false);
+        x.start(6, false);
+        x.warmUp(7);
+        x.valve(9, false);
+        Check.due("42: 30 of 31", x.count(7), 30);
+        x.undo();
+        Check.due("21: opened", x.valve(9, true), 0);
+        x.undo();
+        Check.due("21: not WARMED, on, but 6 is off", x.pumpOf(7, 4) * 100 + x.pumpOf(7, 0) * 10 + x.pumpOf(6, 0), 10);
+        x.undo();
+        Check.due("21: 6 is on", x.pumpOf(6, 0) * 10 + x.pumpOf(7, 0), 11);
+        x.undo();
+        Check.due("21: opened", x.valve(10, true), 0);
+        x.undo();
+        Check.due("21: opened", x.valve(11, true), 0);
+        for (int k = 5; k >= 0; k--) {
+            x.undo();
+            Check.due("21: not WARMED " + k, x.pumpOf(k, 4), 0);
+            Check.due("21: on " + k, x.pumpOf(k, 0), 1);
+        }
+        for (int k = 11; k >= 0; k--) {
+            if (k < 8) {
+                x.undo();
+                Check.due("21: off " + k, x.pumpOf(k, 0), 0);
+            }
+            Check.due("21: shut, but for the first " + k, x.undo(), k == 0 ? -3 : 1);
+            Check.due("21: it was so " + k, x.valve(k, k == 0), 0);
         }
     }
 
