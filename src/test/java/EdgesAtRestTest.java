@@ -28,6 +28,7 @@ public final class EdgesAtRestTest {
         besidesWhatIsOn();
         eachRoomReached();
         noneClosed();
+        leastPrice();
         leastAsBits();
         gasZeroAlone();
         Check.end();
@@ -160,6 +161,11 @@ public final class EdgesAtRestTest {
         x.leak(0, 0, 7);
         rest("7 and 7 by 5", x, 0, 0, 42, 5);
         rest("at the PUMP", x, 1, 0, 7, 1);
+        x.valve(2, true);
+        rest("7 and 7 by 14", x, 0, 0, 15, 2);
+        x.valve(0, false);
+        x.valve(1, false);
+        rest("7 and 7 by 9", x, 0, 0, 70, 9);
     }
 
     /** "TRAPS as PUMPS": a full one, too; a WARMED one is off. */
@@ -478,6 +484,25 @@ public final class EdgesAtRestTest {
             y.offer(room, 9, 7);
             Check.due("41: an OFFER for ROOM " + room, y.plan(9999, 1), 2);
         }
+    }
+
+    /** "the least PRICE of a set", be it the first or the last, of one or of several. */
+    private static void leastPrice() {
+        NearNothing x = rooms(1);
+        x.leak(0, 0, 12);
+        x.offer(0, 4, 9);
+        x.offer(0, 4, 8);
+        x.offer(0, 4, 5);
+        x.offer(0, 2, 2);
+        x.offer(0, 2, 2);
+        Check.due("41: two of SPEED 2", x.plan(3, 0), 4);
+        Check.due("41: the last two", x.plan(3, 1), 0b11000);
+        Check.due("41: with the one of 5", x.plan(2, 0), 7);
+        Check.due("41: the first of SPEED 2", x.plan(2, 1), 0b01100);
+        x.offer(0, 9, 3);
+        Check.due("41: the sixth is cheaper", x.plan(3, 0), 3);
+        Check.due("41: alone", x.plan(3, 1), 0b100000);
+        Check.due("41: all six, 25 in all", x.plan(0, 0), -9);
     }
 
     /** "of several sets the least as bits". */

@@ -17,6 +17,7 @@ public final class EdgesOfRoomsTest {
         widths();
         shutAtFirst();
         eachValveForItself();
+        eachRoomForItself();
         flowIsCut();
         noMoreThanIsThere();
         whatCameInToo();
@@ -128,13 +129,13 @@ public final class EdgesOfRoomsTest {
         Check.due("I: STUFF 4", x.room(1, 4), -1);
         Check.due("I: GIVES of STUFF 4", x.gives(4, 5, 1), -1);
         for (int stuff = 0; stuff < 4; stuff++) {
-            Check.due("I: STUFF " + stuff, x.room(1, stuff), stuff);
+            Check.due("I: STUFF " + (3 - stuff), x.room(1, 3 - stuff), stuff);
             x.gives(stuff, 5, 100 * stuff);
             x.gas(stuff, 0, 1000, true);
         }
         x.ticks(1);
         for (int stuff = 0; stuff < 4; stuff++) {
-            Check.due("I: its WALL gives off by its STUFF", x.in(stuff, 0, 0), 100 * stuff);
+            Check.due("I: its WALL gives off by its STUFF", x.in(3 - stuff, 0, 0), 100 * stuff);
         }
     }
 
@@ -336,6 +337,27 @@ public final class EdgesOfRoomsTest {
             Check.due("I: through PIPE " + k, x.in(1, 0, 0), 9);
             Check.due("18: shut again", x.valve(k, false), 1);
             Check.due("42: none is open", x.count(3), 0);
+        }
+    }
+
+    /** From each of the five ROOMS to each other one, of each GAS. */
+    private static void eachRoomForItself() {
+        for (int at = 0; at < 25; at++) {
+            int from = at / 5;
+            int to = at % 5;
+            if (from != to) {
+                NearNothing x = rooms(5, 4, 3, 2, 1);
+                x.pipe(Math.min(from, to), Math.max(from, to), 9);
+                x.valve(0, true);
+                for (int gas = 0; gas < 3; gas++) {
+                    x.gas(from, gas, 1000 + 100 * gas, false);
+                }
+                x.ticks(1);
+                for (int gas = 0; gas < 3; gas++) {
+                    int due = (1000 + 100 * gas) * 9 / (100 * (5 - from));
+                    Check.due("I: from " + from + " to " + to + " of " + gas, x.in(to, gas, 0), due);
+                }
+            }
         }
     }
 
@@ -949,8 +971,14 @@ public final class EdgesOfRoomsTest {
             x.pump(k, 9, 8, 7, k < 3 ? 0 : 300 + k);
             x.start(k, true);
         }
+        x.pump(2, 9, 9, 9, 200);
+        x.pump(0, 9, 9, 9, 500);
+        x.pump(1, 9, 9, 9, 700);
+        x.start(6, true);
+        x.start(7, true);
         x.ticks(25);
         x.warmUp(4);
+        x.warmUp(7);
         x.warm(1, 6);
         return x;
     }

@@ -25,6 +25,7 @@ public final class EdgesOfRulesTest {
         fullText();
         nothingIsCounted();
         whileItHolds();
+        whileOthersAreOn();
         leastRule();
         valveWasSo();
         pumpWasSo();
@@ -460,6 +461,24 @@ public final class EdgesOfRulesTest {
         Check.due("17: and no more", x.valve(0, true), 1);
     }
 
+    /** A RULE by which other PUMPS are on, asked at starting and by forbids. */
+    private static void whileOthersAreOn() {
+        NearNothing x = plant(8);
+        Check.rule(x, "P0:p5=0|p7=1");
+        x.valve(0, true);
+        Check.due("17: 5 is off", x.forbids(0, true), 0);
+        Check.due("19: 5 is off", x.start(0, true), -7);
+        x.start(5, true);
+        Check.due("17: 5 is on", x.forbids(0, true), -9);
+        Check.due("19: 5 is on", x.start(0, true), 1);
+        x.start(0, false);
+        x.start(7, true);
+        Check.due("17: 7 is on", x.forbids(0, true), 0);
+        Check.due("19: 7 is on", x.start(0, true), -7);
+        x.start(7, false);
+        Check.due("19: 7 is off", x.start(0, true), 1);
+    }
+
     /** Promise 17: "The least RULE that FORBIDS .. now; -9 none. -1." */
     private static void leastRule() {
         NearNothing x = plant(1);
@@ -873,6 +892,12 @@ public final class EdgesOfRulesTest {
         Check.due("42: none was refused", x.count(11) + x.count(13) + x.count(17), 0);
         x.undo();
         Check.due("23: WARMED no more", x.order(0b100, 0), 2);
+        for (int k = 3; k < 8; k++) {
+            x.pump(0, 1, 1, 1, 5);
+            x.warmUp(k);
+            Check.due("23: without the WARMED one", x.order(0b111, 2), 2);
+            Check.due("23: with it", x.order(0b111 | 1 << k, 0), -9);
+        }
     }
 
     /** "as things are now (only which are on changes)", and nothing is started by asking. */
@@ -892,5 +917,11 @@ public final class EdgesOfRulesTest {
         Check.due("23: by numbers at TICK 1", x.order(0b011, 0), 0);
         x.gas(0, 0, 1, false);
         Check.due("23: FORBIDDEN by PUSH", x.order(0b010, 0), -9);
+        NearNothing y = plant(8);
+        Check.rule(y, "P0:p1=0|p7=0");
+        Check.rule(y, "P1:p7=0");
+        y.start(7, true);
+        Check.due("23: with 7 on, first 1", y.order(0b011, 0), 1);
+        Check.due("23: with 7 on still, then 0", y.order(0b011, 1), 0);
     }
 }
