@@ -3,6 +3,7 @@ import java.lang.reflect.Method;
 import java.lang.reflect.Modifier;
 import java.net.URL;
 import java.net.URLClassLoader;
+import java.nio.file.FileVisitOption;
 import java.nio.file.Files;
 import java.nio.file.Path;
 import java.util.ArrayList;
@@ -118,7 +119,7 @@ public final class ReadmeTest {
     }
 
     private static void copy(Path from, Path to) throws IOException {
-        try (Stream<Path> files = Files.walk(from)) {
+        try (Stream<Path> files = Files.walk(from, FileVisitOption.FOLLOW_LINKS)) {
             for (Path file : (Iterable<Path>) files::iterator) {
                 Path copied = to.resolve(from.relativize(file).toString());
                 if (Files.isDirectory(file)) {
